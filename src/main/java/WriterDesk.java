@@ -394,16 +394,13 @@ public final class WriterDesk {
 
         /** How many signs both begin with alike. */
         int alikeWith(Word other) {
-            int most = Math.min(length, other.length);
-            int alike = 0;
-            for (int i = 0; i < most; i++) {
+            for (int i = 0; i < length && i < other.length; i++) {
                 long differ = (cells[i / CELL] ^ other.cells[i / CELL]) >>> 4 * (i % CELL);
                 if ((differ & 15L) != 0L) {
-                    break;
+                    return i;
                 }
-                alike++;
             }
-            return alike;
+            return length < other.length ? length : other.length;
         }
 
         boolean isLike(Word other) {

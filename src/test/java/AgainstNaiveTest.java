@@ -3,7 +3,6 @@ import java.util.TreeMap;
 
 /** Many machines, made by a fixed rule, whose answers are compared with those of the naive ones. */
 public final class AgainstNaiveTest {
-    private static final int LONGEST = 7;
     private static final TreeMap<String, Integer> SEEN = new TreeMap<>();
     private static long seed = 12345;
 
@@ -63,7 +62,7 @@ public final class AgainstNaiveTest {
             int from = some(machine.states);
             int to = some(machine.states);
             int letter = some(3);
-            int n = letter % 2 + 1 + ahead[to] - ahead[from];
+            int n = letter % 2 + 1 + ahead[to] - ahead[from] - (some(40) == 0 ? 1 : 0);
             machine.edges.add(new Naive.Edge(from, letter, to, "000".substring(0, Math.min(3, Math.max(0, n)))));
         }
         for (int q = 0; q < machine.states; q++) {
@@ -112,20 +111,51 @@ public final class AgainstNaiveTest {
         }
     }
 
+    /** So long are the words that are tried one by one: the fewer letters there are the longer. */
+    private static int longest(Naive machine) {
+        long letters = machine.edges.stream().map(Naive.Edge::letter).distinct().count();
+        return letters > 2 ? 6 : letters == 2 ? 9 : 40;
+    }
+
+    /** Mostly by letters for which the last state on some way has an edge. */
+    private static String someWordToRead(Naive machine) {
+        StringBuilder word = new StringBuilder();
+        int state = 0;
+        for (int n = some(11); n > 0; n--) {
+            int letter = some(3);
+            for (int i = 0; i < 9 && !machine.edges.isEmpty(); i++) {
+                Naive.Edge e = machine.edges.get(some(machine.edges.size()));
+                if (e.from() == state) {
+                    letter = e.letter();
+                    state = e.to();
+                    break;
+                }
+            }
+            word.append(letter);
+        }
+        return word.toString();
+    }
+
+    /** Most of them with some useful states. */
+    private static Naive someUseful() {
+        Naive machine = someOfAKind();
+        for (int i = 0; i < 5 && machine.useful() < 2; i++) {
+            machine = someOfAKind();
+        }
+        return machine;
+    }
+
     private static void compareReading(WriterDesk desk, Naive machine, String name) {
         for (int i = 0; i < 3; i++) {
-            StringBuilder word = new StringBuilder();
-            for (int n = some(11); n > 0; n--) {
-                word.append(some(3));
-            }
-            List<String> due = Naive.read(machine, word.toString());
+            String word = someWordToRead(machine);
+            List<String> due = Naive.read(machine, word);
             if (due == null) {
                 saw("read: too many");
                 Check.throwing(name + "read " + word, UnsupportedOperationException.class,
-                        () -> Check.read(desk, 0, word.toString(), 0));
+                        () -> Check.read(desk, 0, word, 0));
             } else {
                 int k = some(due.size() + 1);
-                Check.equal(name + "read " + word, Check.read(desk, 0, word.toString(), k), due.size());
+                Check.equal(name + "read " + word, Check.read(desk, 0, word, k), due.size());
                 Check.result(name + "read " + word + " " + k, desk, k < due.size() ? due.get(k) : "");
                 saw("read: " + (due.isEmpty() ? "none" : due.size() == 1 ? "one" : "many"));
             }
@@ -133,12 +163,13 @@ public final class AgainstNaiveTest {
     }
 
     private static boolean compareFunction(WriterDesk desk, Naive machine, String name) {
-        String apart = Naive.firstApart(machine, machine, LONGEST);
+        int longest = longest(machine);
+        String apart = Naive.firstApart(machine, machine, longest);
         boolean function = desk.isFunction(0);
         String word = Check.result(desk);
         if (apart == null && !function) {
             saw("isFunction: told apart later");
-            Check.equal(name + "isFunction " + word, word.length() > LONGEST, true);
+            Check.equal(name + "isFunction " + word, word.length() > longest, true);
             Check.equal(name + "outputs of " + word, Naive.read(machine, word).size() > 1, true);
         } else {
             saw("isFunction: " + function);
@@ -202,12 +233,13 @@ public final class AgainstNaiveTest {
             Check.throwing(name + "isSame", IllegalStateException.class, () -> desk.isSame(1, 0));
             return;
         }
-        String apart = Naive.firstApart(one, two, LONGEST);
+        int longest = Math.min(longest(one), longest(two));
+        String apart = Naive.firstApart(one, two, longest);
         boolean same = desk.isSame(0, 1);
         String word = Check.result(desk);
         if (apart == null && !same) {
             saw("isSame: told apart later");
-            Check.equal(name + "isSame " + word, word.length() > LONGEST, true);
+            Check.equal(name + "isSame " + word, word.length() > longest, true);
         } else {
             saw("isSame: " + same);
             Check.equal(name + "isSame", same, apart == null);
@@ -222,7 +254,7 @@ public final class AgainstNaiveTest {
         seed = args.length > 1 ? Long.parseLong(args[1]) : seed;
         WriterDesk desk = new WriterDesk();
         for (int round = 0; round < rounds; round++) {
-            Naive machine = someOfAKind();
+            Naive machine = someUseful();
             String name = "round " + round + ": ";
             machine.tell(desk, 0);
             Check.equal(name + "useful", desk.useful(0), machine.useful());

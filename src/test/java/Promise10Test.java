@@ -1,0 +1,108 @@
+/** isSteady. */
+public final class Promise10Test {
+    private Promise10Test() {
+    }
+
+    public static void main(String[] args) {
+        knowsSteadyOnes();
+        knowsUnsteadyOnes();
+        stopsAtTooMany();
+        countsOnlyUseful();
+        refusesWrongOnes();
+        Check.finish();
+    }
+
+    /** A guess that the letter behind the zeros settles, each zero writing what was told. */
+    private static WriterDesk guessing(String one, String two) {
+        WriterDesk desk = new WriterDesk();
+        desk.machine(0, 3);
+        Check.edge(desk, 0, 0, 0, 1, "1");
+        Check.edge(desk, 0, 1, 0, 1, one);
+        Check.edge(desk, 0, 1, 1, 0, "");
+        Check.edge(desk, 0, 0, 0, 2, "2");
+        Check.edge(desk, 0, 2, 0, 2, two);
+        Check.edge(desk, 0, 2, 2, 0, "");
+        Check.last(desk, 0, 0, "7");
+        return desk;
+    }
+
+    private static void knowsSteadyOnes() {
+        WriterDesk desk = new WriterDesk();
+        Check.equal("no output", desk.isSteady(0), true);
+        Check.first(desk, 0, "111");
+        Check.equal("no output, a first word", desk.isSteady(0), true);
+        Check.last(desk, 0, 0, "");
+        Check.read(desk, 0, "", 0);
+        Check.equal("one output", desk.isSteady(0), true);
+        Check.result("the result stays", desk, "111");
+        Check.equal("a guess without more signs", guessing("", "").isSteady(0), true);
+    }
+
+    private static void knowsUnsteadyOnes() {
+        Check.equal("both write", guessing("1", "2").isSteady(0), false);
+        Check.equal("both write alike", guessing("123", "123").isSteady(0), false);
+        Check.equal("the first writes", guessing("1", "").isSteady(0), false);
+        Check.equal("the second writes", guessing("", "2").isSteady(0), false);
+    }
+
+    /** A guess whether this 2 is the last one; then 0 and 1 are written as they are read, behind what was told. */
+    private static WriterDesk lastTwo(String goesOn, String isLast, String end) {
+        WriterDesk desk = new WriterDesk();
+        desk.machine(0, 2);
+        Check.edge(desk, 0, 0, 2, 0, goesOn);
+        Check.edge(desk, 0, 0, 2, 1, isLast);
+        for (int q = 0; q < 2; q++) {
+            Check.edge(desk, 0, q, 0, q, "0");
+            Check.edge(desk, 0, q, 1, q, "1");
+        }
+        Check.last(desk, 0, 1, end);
+        return desk;
+    }
+
+    /** Up to length L there are 2 * (2^L - 1) + 2 different ones: 2048 for 10, 4096 for 11. */
+    private static void stopsAtTooMany() {
+        Check.equal("n * n * g is 8", lastTwo("30", "20", "00").isSteady(0), false);
+        Check.throwing("n * n * g is 12, and none longer for length 11", UnsupportedOperationException.class,
+                () -> lastTwo("30", "20", "000").isSteady(0));
+        Check.equal("n * n * g is 12, and longer for length 11", lastTwo("300", "200", "").isSteady(0), false);
+        WriterDesk desk = lastTwo("30", "20", "0");
+        Check.equal("n * n * g is 8 still", desk.isSteady(0), false);
+        Check.first(desk, 0, "444");
+        Check.throwing("the first word counts, too", UnsupportedOperationException.class, () -> desk.isSteady(0));
+        Check.first(desk, 0, "44");
+        Check.equal("a shorter one", desk.isSteady(0), false);
+        Check.read(desk, 0, "2", 0);
+        Check.first(desk, 0, "444");
+        Check.throwing("once more", UnsupportedOperationException.class, () -> desk.isSteady(0));
+        Check.result("the result stays", desk, "44200");
+    }
+
+    /** States, edges and final words that are not useful make n * n * g no larger. */
+    private static void countsOnlyUseful() {
+        WriterDesk desk = new WriterDesk();
+        desk.machine(0, 4);
+        Check.edge(desk, 0, 0, 2, 0, "30");
+        Check.edge(desk, 0, 0, 2, 1, "20");
+        for (int q = 0; q < 2; q++) {
+            Check.edge(desk, 0, q, 0, q, "0");
+            Check.edge(desk, 0, q, 1, q, "1");
+        }
+        Check.last(desk, 0, 1, "");
+        Check.edge(desk, 0, 0, 0, 2, "777");
+        Check.edge(desk, 0, 3, 0, 0, "777");
+        Check.last(desk, 0, 3, "777");
+        Check.equal("n * n * g is 8", desk.isSteady(0), false);
+    }
+
+    private static void refusesWrongOnes() {
+        WriterDesk desk = new WriterDesk();
+        Check.edge(desk, 0, 0, 0, 0, "1");
+        Check.edge(desk, 0, 0, 0, 0, "2");
+        Check.last(desk, 0, 0, "");
+        Check.throwing("no function", IllegalStateException.class, () -> desk.isSteady(0));
+        int[] wrongMachines = {-1, 6, Integer.MIN_VALUE, Integer.MAX_VALUE};
+        for (int m : wrongMachines) {
+            Check.throwing("machine " + m, IndexOutOfBoundsException.class, () -> desk.isSteady(m));
+        }
+    }
+}

@@ -6,7 +6,10 @@ public final class Promise10Test {
     public static void main(String[] args) {
         knowsSteadyOnes();
         knowsUnsteadyOnes();
+        letsWaysMeetAgain();
         stopsAtTooMany();
+        stopsBehindThreeThousand();
+        looksAtAllWords();
         countsOnlyUseful();
         refusesWrongOnes();
         Check.finish();
@@ -45,6 +48,28 @@ public final class Promise10Test {
         Check.equal("the second writes", guessing("", "2").isSteady(0), false);
     }
 
+    /** One way is three signs ahead, then the other one; each time round they are alike once more. */
+    private static void letsWaysMeetAgain() {
+        WriterDesk desk = new WriterDesk();
+        desk.machine(0, 6);
+        Check.edge(desk, 0, 0, 0, 1, "123");
+        Check.edge(desk, 0, 0, 0, 2, "");
+        Check.edge(desk, 0, 1, 0, 3, "");
+        Check.edge(desk, 0, 2, 0, 4, "123");
+        Check.edge(desk, 0, 3, 0, 0, "456");
+        Check.edge(desk, 0, 4, 0, 0, "456");
+        Check.last(desk, 0, 0, "");
+        Check.equal("ways that meet", desk.isSteady(0), true);
+        desk.machine(0, 3);
+        Check.edge(desk, 0, 0, 0, 1, "12");
+        Check.edge(desk, 0, 0, 0, 2, "1");
+        Check.edge(desk, 0, 1, 0, 1, "12");
+        Check.edge(desk, 0, 2, 0, 2, "21");
+        Check.last(desk, 0, 1, "");
+        Check.last(desk, 0, 2, "2");
+        Check.equal("one way always a sign ahead", desk.isSteady(0), true);
+    }
+
     /** A guess whether this 2 is the last one; then 0 and 1 are written as they are read, behind what was told. */
     private static WriterDesk lastTwo(String goesOn, String isLast, String end) {
         WriterDesk desk = new WriterDesk();
@@ -77,21 +102,51 @@ public final class Promise10Test {
         Check.result("the result stays", desk, "44200");
     }
 
-    /** States, edges and final words that are not useful make n * n * g no larger. */
-    private static void countsOnlyUseful() {
+    private static WriterDesk told(int states, String edges, String end) {
         WriterDesk desk = new WriterDesk();
-        desk.machine(0, 4);
-        Check.edge(desk, 0, 0, 2, 0, "30");
-        Check.edge(desk, 0, 0, 2, 1, "20");
-        for (int q = 0; q < 2; q++) {
-            Check.edge(desk, 0, q, 0, q, "0");
-            Check.edge(desk, 0, q, 1, q, "1");
+        desk.machine(0, states);
+        for (String e : edges.split(" ")) {
+            Check.edge(desk, 0, e.charAt(0) - '0', e.charAt(1) - '0', e.charAt(2) - '0', e.substring(3));
         }
-        Check.last(desk, 0, 1, "");
-        Check.edge(desk, 0, 0, 0, 2, "777");
-        Check.edge(desk, 0, 3, 0, 0, "777");
+        Check.last(desk, 0, 1, end);
+        return desk;
+    }
+
+    /** There are so many for some length, and longer residuals for the next one. */
+    private static void stopsBehindThreeThousand() {
+        String exactly = "0201 021 2020 4130 2000 3100 303 0140 1000 124 4230";
+        Check.equal("3000 of them", told(5, exactly, "").isSteady(0), false);
+        String oneMore = "020 0211 4000 004 0140 1010 1100 011";
+        Check.throwing("3001 of them", UnsupportedOperationException.class,
+                () -> told(5, oneMore, "110").isSteady(0));
+    }
+
+    /** Which word it is that makes n * n * g larger, 27 for 9, does not matter. */
+    private static void looksAtAllWords() {
+        String later = "1010 1111 2020 2121 221";
+        Check.equal("all are short", told(3, "0012 0023 " + later, "").isSteady(0), false);
+        Check.throwing("the first edge", UnsupportedOperationException.class,
+                () -> told(3, "001222 0023 " + later, "").isSteady(0));
+        Check.throwing("the last edge", UnsupportedOperationException.class,
+                () -> told(3, "0012 0023 " + later + "777", "").isSteady(0));
+        Check.throwing("a final word", UnsupportedOperationException.class,
+                () -> told(3, "0012 0023 " + later, "777").isSteady(0));
+        WriterDesk desk = told(3, "0012 0023 " + later, "");
+        Check.last(desk, 0, 0, "777");
+        Check.throwing("the first state's final word", UnsupportedOperationException.class, () -> desk.isSteady(0));
+    }
+
+    /** States, edges and final words that are not useful make n * n * g, which is 8, no larger. */
+    private static void countsOnlyUseful() {
+        String edges = "02030 02120 0000 0101 1010 1111";
+        Check.equal("all are useful", told(4, edges, "").isSteady(0), false);
+        Check.equal("an edge to a dead end", told(4, edges + " 022777", "").isSteady(0), false);
+        Check.equal("an edge from nowhere", told(4, edges + " 300777", "").isSteady(0), false);
+        WriterDesk desk = told(4, edges, "");
         Check.last(desk, 0, 3, "777");
-        Check.equal("n * n * g is 8", desk.isSteady(0), false);
+        Check.equal("a final word never come to", desk.isSteady(0), false);
+        Check.last(desk, 0, 1, "777");
+        Check.throwing("one that is come to", UnsupportedOperationException.class, () -> desk.isSteady(0));
     }
 
     private static void refusesWrongOnes() {

@@ -1,4 +1,7 @@
 import java.util.Objects;
+import java.util.function.Consumer;
+import java.util.function.ObjIntConsumer;
+import java.util.function.Supplier;
 
 /** What the tests have in common: a test compares, and ends with exit code 1 if an answer was wrong. */
 final class Check {
@@ -6,8 +9,18 @@ final class Check {
         void make();
     }
 
+    interface CallWith {
+        void make(int value);
+    }
+
+    /** No numbers of machines. */
+    static final int[] NO_MACHINES = {-1, 6, Integer.MIN_VALUE, Integer.MAX_VALUE};
+
     private static int wrong = 0;
     private static int checked = 0;
+    private static int sentences = 0;
+    private static int checkedBefore = 0;
+    private static String sentence = "";
 
     private Check() {
     }
@@ -16,8 +29,24 @@ final class Check {
         checked++;
         if (!Objects.equals(got, due)) {
             wrong++;
-            System.out.println(what + " answered " + got + ", due is " + due);
+            System.out.println(sentence + what + " answered " + got + ", due is " + due);
         }
+    }
+
+    /** The sentence of the document that the answers from here on are looked at for. */
+    static void sentence(String words) {
+        endSentence();
+        sentence = "\"" + words + "\": ";
+        sentences++;
+    }
+
+    private static void endSentence() {
+        if (sentences > 0 && checked == checkedBefore) {
+            wrong++;
+            System.out.println(sentence + "no answer was looked at");
+        }
+        checkedBefore = checked;
+        sentence = "";
     }
 
     static void throwing(String what, Class<? extends RuntimeException> due, Call call) {
@@ -28,6 +57,51 @@ final class Check {
             got = e.getClass();
         }
         equal(what + " throws", got, due);
+    }
+
+    static void throwingFor(String what, Class<? extends RuntimeException> due, CallWith call, int... values) {
+        for (int value : values) {
+            throwing(what + " " + value, due, () -> call.make(value));
+        }
+    }
+
+    /** A call that throws, and leaves all that can be seen of the object as it was. */
+    static void refused(String what, Class<? extends RuntimeException> due, Supplier<WriterDesk> made,
+            Consumer<WriterDesk> call) {
+        WriterDesk desk = made.get();
+        String before = all(desk);
+        String result = result(desk);
+        throwing(what, due, () -> call.accept(desk));
+        equal(what + ": the result stays", result(desk), result);
+        equal(what + ": all stays", all(desk), before);
+    }
+
+    static void refusedFor(String what, Class<? extends RuntimeException> due, Supplier<WriterDesk> made,
+            ObjIntConsumer<WriterDesk> call, int... values) {
+        for (int value : values) {
+            refused(what + " " + value, due, made, desk -> call.accept(desk, value));
+        }
+    }
+
+    /** What can be seen of an object without too many calls; the result is a first output then, if there is one. */
+    private static String all(WriterDesk desk) {
+        StringBuilder text = new StringBuilder();
+        text.append(desk.count(1)).append(' ').append(desk.count(2));
+        text.append(desk.count(2) == 0 ? "" : made(desk));
+        int told = WriterDesk.NONE;
+        for (int m = 0; m < 6; m++) {
+            text.append(' ').append(desk.useful(m)).append(outputs(desk, m, "")).append(outputs(desk, m, "0"));
+            told = desk.useful(m) > 0 ? m : told;
+        }
+        if (told != WriterDesk.NONE) {
+            desk.read(told, 0, 0, 0);
+        }
+        return text.toString();
+    }
+
+    private static String outputs(WriterDesk desk, int m, String word) {
+        int outputs = read(desk, m, word, 0);
+        return ":" + outputs + "/" + result(desk);
     }
 
     /** The result as digits, one for each letter or sign. */
@@ -78,6 +152,31 @@ final class Check {
         return desk.read(m, word.length(), letters(word), k);
     }
 
+    /** A machine told as "from letter to word" for each edge, and "state word" for each final word. */
+    static WriterDesk tell(WriterDesk desk, int m, int states, String edges, String ends) {
+        desk.machine(m, states);
+        for (String e : edges.isEmpty() ? new String[0] : edges.split(" ")) {
+            edge(desk, m, e.charAt(0) - '0', e.charAt(1) - '0', e.charAt(2) - '0', e.substring(3));
+        }
+        for (String end : ends.isEmpty() ? new String[0] : ends.split(" ")) {
+            last(desk, m, end.charAt(0) - '0', end.substring(1));
+        }
+        return desk;
+    }
+
+    /** A new object whose machine 0 is told so. */
+    static WriterDesk told(int states, String edges, String ends) {
+        return tell(new WriterDesk(), 0, states, edges, ends);
+    }
+
+    static void reads(String what, WriterDesk desk, int m, String word, String... outputs) {
+        equal(what + ": outputs of " + word, read(desk, m, word, -1), outputs.length);
+        for (int k = 0; k < outputs.length; k++) {
+            read(desk, m, word, k);
+            equal(what + ": output " + k + " of " + word, result(desk), outputs[k]);
+        }
+    }
+
     /** The smallest machine as a text: its first word, then each state with its edges and final word. */
     static String made(WriterDesk desk) {
         StringBuilder text = new StringBuilder();
@@ -97,7 +196,9 @@ final class Check {
     }
 
     static void finish() {
-        System.out.println(checked + " answers looked at, " + wrong + " wrong");
+        endSentence();
+        String told = sentences == 0 ? "" : " for " + sentences + " sentences of the document";
+        System.out.println(checked + " answers looked at" + told + ", " + wrong + " wrong");
         if (wrong != 0 || checked == 0) {
             System.exit(1);
         }

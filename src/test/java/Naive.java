@@ -27,6 +27,18 @@ final class Naive {
         this.closing = new String[states];
     }
 
+    /** Told as for Check.tell(). */
+    static Naive told(int states, String edges, String ends) {
+        Naive machine = new Naive(states);
+        for (String e : edges.split(" ")) {
+            machine.edges.add(new Edge(e.charAt(0) - '0', e.charAt(1) - '0', e.charAt(2) - '0', e.substring(3)));
+        }
+        for (String end : ends.split(" ")) {
+            machine.closing[end.charAt(0) - '0'] = end.substring(1);
+        }
+        return machine;
+    }
+
     void tell(WriterDesk desk, int m) {
         desk.machine(m, states);
         for (Edge e : edges) {

@@ -70,27 +70,12 @@ public final class Promise10Test {
         Check.equal("one way always a sign ahead", desk.isSteady(0), true);
     }
 
-    /** A guess whether this 2 is the last one; then 0 and 1 are written as they are read, behind what was told. */
-    private static WriterDesk lastTwo(String goesOn, String isLast, String end) {
-        WriterDesk desk = new WriterDesk();
-        desk.machine(0, 2);
-        Check.edge(desk, 0, 0, 2, 0, goesOn);
-        Check.edge(desk, 0, 0, 2, 1, isLast);
-        for (int q = 0; q < 2; q++) {
-            Check.edge(desk, 0, q, 0, q, "0");
-            Check.edge(desk, 0, q, 1, q, "1");
-        }
-        Check.last(desk, 0, 1, end);
-        return desk;
-    }
-
-    /** Up to length L there are 2 * (2^L - 1) + 2 different ones: 2048 for 10, 4096 for 11. */
     private static void stopsAtTooMany() {
-        Check.equal("n * n * g is 8", lastTwo("30", "20", "00").isSteady(0), false);
+        Check.equal("n * n * g is 8", Known.lastTwo("30", "20", "00").isSteady(0), false);
         Check.throwing("n * n * g is 12, and none longer for length 11", UnsupportedOperationException.class,
-                () -> lastTwo("30", "20", "000").isSteady(0));
-        Check.equal("n * n * g is 12, and longer for length 11", lastTwo("300", "200", "").isSteady(0), false);
-        WriterDesk desk = lastTwo("30", "20", "0");
+                () -> Known.lastTwo("30", "20", "000").isSteady(0));
+        Check.equal("n * n * g is 12, and longer for length 11", Known.lastTwo("300", "200", "").isSteady(0), false);
+        WriterDesk desk = Known.lastTwo("30", "20", "0");
         Check.equal("n * n * g is 8 still", desk.isSteady(0), false);
         Check.first(desk, 0, "444");
         Check.throwing("the first word counts, too", UnsupportedOperationException.class, () -> desk.isSteady(0));
@@ -103,22 +88,14 @@ public final class Promise10Test {
     }
 
     private static WriterDesk told(int states, String edges, String end) {
-        WriterDesk desk = new WriterDesk();
-        desk.machine(0, states);
-        for (String e : edges.split(" ")) {
-            Check.edge(desk, 0, e.charAt(0) - '0', e.charAt(1) - '0', e.charAt(2) - '0', e.substring(3));
-        }
-        Check.last(desk, 0, 1, end);
-        return desk;
+        return Check.told(states, edges, "1" + end);
     }
 
     /** There are so many for some length, and longer residuals for the next one. */
     private static void stopsBehindThreeThousand() {
-        String exactly = "0201 021 2020 4130 2000 3100 303 0140 1000 124 4230";
-        Check.equal("3000 of them", told(5, exactly, "").isSteady(0), false);
-        String oneMore = "020 0211 4000 004 0140 1010 1100 011";
+        Check.equal("3000 of them", told(5, Known.THREE_THOUSAND, "").isSteady(0), false);
         Check.throwing("3001 of them", UnsupportedOperationException.class,
-                () -> told(5, oneMore, "110").isSteady(0));
+                () -> told(5, Known.ONE_MORE, "110").isSteady(0));
     }
 
     /** Which word it is that makes n * n * g larger, 27 for 9, does not matter. */

@@ -1,10 +1,5 @@
 /** smallest. */
 public final class Promise11Test {
-    private static final String FORTY =
-            "025 420 323 221 312 102 103 213 222 302 302 115 521 514 105 205 420 205 010";
-    private static final String FORTY_ONE =
-            "014 025 512 003 200 021 223 421 401 501 314 205 322 524 104 305 302 105 420";
-
     private Promise11Test() {
     }
 
@@ -108,29 +103,19 @@ public final class Promise11Test {
         makes(desk, "numbers", "|1:234 - 2:1 -|3: - - -|- 2:5 - .6|- - - .");
     }
 
-    private static WriterDesk oneThatWritesNothing(WriterDesk desk, String edges, int end) {
-        desk.machine(0, 6);
-        for (String e : edges.split(" ")) {
-            Check.edge(desk, 0, e.charAt(0) - '0', e.charAt(1) - '0', e.charAt(2) - '0', "");
-        }
-        Check.last(desk, 0, end, "");
-        return desk;
-    }
-
     private static void endsAtFortyStates() {
-        WriterDesk desk = new WriterDesk();
-        oneThatWritesNothing(desk, FORTY, 0);
+        WriterDesk desk = Known.forty();
         Check.equal("40 states", desk.smallest(0), 40);
         String made = Check.made(desk);
         Check.equal("40 states told", Naive.statesOf(made), 40);
         Check.throwing("no state 40", IllegalArgumentException.class, () -> desk.ends(40));
-        oneThatWritesNothing(desk, FORTY_ONE, 3);
+        Check.tell(desk, 0, 6, Known.FORTY_ONE, "3");
         Check.equal("steady", desk.isSteady(0), true);
         desk.ends(WriterDesk.NONE);
         Check.throwing("41 states", UnsupportedOperationException.class, () -> desk.smallest(0));
         Check.equal("count(2) stays", desk.count(2), 40);
         Check.equal("the one made before stays", Check.made(desk), made);
-        WriterDesk other = oneThatWritesNothing(new WriterDesk(), FORTY_ONE, 3);
+        WriterDesk other = Known.fortyOne();
         Check.throwing("41 states at first", UnsupportedOperationException.class, () -> other.smallest(0));
         Check.equal("none was made", other.count(2), 0);
         Check.throwing("none was made", IllegalStateException.class, () -> other.next(0, 0));

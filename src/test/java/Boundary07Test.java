@@ -134,7 +134,8 @@ public final class Boundary07Test {
         for (String end : ends.split(" ")) {
             Check.last(desk, 0, end.charAt(0) - '0', "");
         }
-        return desk;
+        // Another machine's output, for a result to see.
+        return Check.tell(desk, 5, 1, "", "07");
     }
 
     private static void tooManyBehindAll() {

@@ -69,8 +69,8 @@ public final class Boundary09Test {
         Check.sentence("the result is the first word that tells them apart");
         apart("one reads 1, the other one writes another word for 2", two("010 0203", "0", "0204", "0"), "1");
         apart("one reads 2, the other one writes another word for 1", two("020 0103", "0", "0104", "0"), "1");
-        apart("one reads 2, the other one writes another word for 11", two("011 1123 020", "0 1 2", "011 1124", "0 1 2"),
-                "2");
+        apart("one reads 2, the other one writes another word for 11",
+                two("011 1123 020", "0 1 2", "011 1124", "0 1 2"), "2");
         apart("one reads 00, the other one writes another word for 2", two("001 102 022", "2", "0227", "2"), "2");
         apart("both read 0, one reads 00", two("001 102", "1 2", "001", "1"), "00");
         apart("both read 0, one reads 02, and the other one 01", two("001 122", "1 2", "001 112", "1 2"), "01");
@@ -79,8 +79,8 @@ public final class Boundary09Test {
     private static void longWords() {
         Check.sentence("the result is the first word that tells them apart (a long one)");
         apart("31 letters", two(Known.ALL_UP_TO_THIRTY, "0 1 2 3 4 5", ALL, "0"), "1111121111011112111101111211112");
-        apart("31 letters, another one", two("010 401 214 021 204 502 324 022 000 414 023 115 422 515 310 103 120 421 305"
-                + " 321 111 024 520 015", "0 1 2 3 4 5", ALL, "0"), "2000010000200001000020000100002");
+        apart("31 letters, another one", two("010 401 214 021 204 502 324 022 000 414 023 115 422 515 310 103 120 421"
+                + " 305 321 111 024 520 015", "0 1 2 3 4 5", ALL, "0"), "2000010000200001000020000100002");
         apart("ten letters", two("001 102 203 304 405 500", "0 1 2 3 4 51", "001 102 203 304 405 501",
                 "0 1 2 3 4 51"), "0000000000");
     }

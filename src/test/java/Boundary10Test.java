@@ -7,6 +7,7 @@ public final class Boundary10Test {
         whether();
         noFunction();
         threeThousand();
+        threeThousandInAll();
         inOrder();
         differentOnes();
         noneLonger();
@@ -48,6 +49,20 @@ public final class Boundary10Test {
                 desk -> desk.isSteady(0));
     }
 
+    /** All there are: no longer word has another one. So both are steady but for the limit. */
+    private static void threeThousandInAll() {
+        Check.sentence("UnsupportedOperationException, when up to some length there are more than 3000 (in all)");
+        WriterDesk exactly = Check.told(6, "521 101 025110 0051 20411 21401 10011 320 5130 2241 31002 003210 222 502"
+                + " 11212 511200 515", "42");
+        Check.equal("3000 in all: a function", exactly.isFunction(0), true);
+        Check.equal("3000 in all", exactly.isSteady(0), true);
+        WriterDesk more = Check.told(6, "313121 5120 5142 205222 110 401 50020 311 315 422110 424 121 020 104 2231"
+                + " 003222 102", "312");
+        Check.equal("3002 in all: a function", more.isFunction(0), true);
+        Check.throwing("3002 in all", UnsupportedOperationException.class, () -> more.isSteady(0));
+        Check.throwing("3002 in all, smallest", UnsupportedOperationException.class, () -> more.smallest(0));
+    }
+
     private static WriterDesk oneMore() {
         WriterDesk desk = Check.told(5, Known.ONE_MORE, "1110");
         return Check.tell(desk, 1, 1, "", "07");
@@ -73,7 +88,9 @@ public final class Boundary10Test {
         Check.sentence("and none longer than told");
         Check.throwing("more than 3000 for length 11, as long as told", UnsupportedOperationException.class,
                 () -> Known.lastTwo("30", "20", "000").isSteady(0));
-        Check.equal("more than 3000 for length 11, one of them longer", Known.lastTwo("30", "200", "000").isSteady(0), false);
-        Check.equal("more than 3000 for length 11, one longer before", Known.lastTwo("30", "20", "00").isSteady(0), false);
+        Check.equal("more than 3000 for length 11, one of them longer",
+                Known.lastTwo("30", "200", "000").isSteady(0), false);
+        Check.equal("more than 3000 for length 11, one longer before",
+                Known.lastTwo("30", "20", "00").isSteady(0), false);
     }
 }

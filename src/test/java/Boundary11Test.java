@@ -44,11 +44,16 @@ public final class Boundary11Test {
         return desk;
     }
 
+    /** Machine 1 has an output, for a result to see. */
+    private static WriterDesk withOutput(WriterDesk desk) {
+        return Check.tell(desk, 1, 1, "", "07");
+    }
+
     private static void noFunction() {
         Check.sentence("IllegalStateException, when m is no function");
         Check.refused("none", IllegalStateException.class, () -> withOneMade(1, "000 0001", "0"), SMALLEST_OF_0);
-        Check.refused("none, nothing made", IllegalStateException.class, () -> Check.told(1, "000 0001", "0"),
-                SMALLEST_OF_0);
+        Check.refused("none, nothing made", IllegalStateException.class,
+                () -> withOutput(Check.told(1, "000 0001", "0")), SMALLEST_OF_0);
         Check.equal("one", withOneMade(1, "0001 0001", "0").smallest(0), 1);
         Check.equal("none, but no word has an output", withOneMade(1, "000 0001", "").smallest(0), 1);
     }
@@ -84,7 +89,8 @@ public final class Boundary11Test {
         Check.sentence("UnsupportedOperationException [..] when it would have more than 40 states");
         Check.equal("41 states", Naive.statesOf(Naive.smallest(Naive.told(6, Known.FORTY_ONE, "3"), 1000)), 41);
         Check.equal("steady", Known.fortyOne().isSteady(0), true);
-        Check.refused("41 states", UnsupportedOperationException.class, () -> Known.fortyOne(), SMALLEST_OF_0);
+        Check.refused("41 states", UnsupportedOperationException.class, () -> withOutput(Known.fortyOne()),
+                SMALLEST_OF_0);
         WriterDesk desk = Known.fortyOne();
         Check.throwing("41 states", UnsupportedOperationException.class, () -> desk.smallest(0));
         Check.equal("none was made", desk.count(2), 0);

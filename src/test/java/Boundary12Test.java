@@ -70,7 +70,8 @@ public final class Boundary12Test {
     private static void noneMade() {
         Check.sentence("IllegalStateException, when none was made");
         WriterDesk desk = Check.told(1, "0001", "07");
-        Check.refused("none", IllegalStateException.class, () -> Check.told(1, "0001", "07"), other -> other.next(0, 0));
+        Check.refused("none", IllegalStateException.class, () -> Check.told(1, "0001", "07"),
+                other -> other.next(0, 0));
         Check.equal("steady", desk.isSteady(0), true);
         Check.throwing("isSteady makes none", IllegalStateException.class, () -> desk.next(0, 0));
         Check.edge(desk, 0, 0, 0, 0, "2");

@@ -89,8 +89,8 @@ public final class Boundary13Test {
 
     private static void noSuchState() {
         Check.sentence("IllegalArgumentException, when there is no such state");
-        Check.refusedFor("state", IllegalArgumentException.class, Boundary13Test::made, (desk, q) -> desk.ends(q), -2, 3,
-                40, Integer.MIN_VALUE, Integer.MAX_VALUE);
+        Check.refusedFor("state", IllegalArgumentException.class, Boundary13Test::made, (desk, q) -> desk.ends(q),
+                -2, 3, 40, Integer.MIN_VALUE, Integer.MAX_VALUE);
         ends("the last one", made(), 2, true, "");
         WriterDesk desk = Known.forty();
         desk.smallest(0);

@@ -170,7 +170,8 @@ public final class BoundaryCallsTest {
     }
 
     private static void noSuchMachine() {
-        Check.sentence("For all calls with a machine: IndexOutOfBoundsException (first), when there is no such machine.");
+        Check.sentence("For all calls with a machine: IndexOutOfBoundsException (first), "
+                + "when there is no such machine.");
         List<ObjIntConsumer<WriterDesk>> calls = new ArrayList<>();
         calls.add((desk, m) -> desk.machine(m, 1));
         calls.add((desk, m) -> desk.edge(m, 0, 0, 0, 0, 0));

@@ -113,13 +113,18 @@ public final class BoundarySmallestTest {
     }
 
     private static void longestWords() {
-        Check.sentence("writes all as early as can be (words of more than fifty signs)");
-        compare("57 signs", "215111 104010 403011 005000 501111 01200 511111 000110 313 302111 02411", "4011", 57);
-        compare("54 signs", "105100 504001 000 403111 201110 022010 321101 424 002101 312001 514001 02510", "311",
-                54);
+        Check.sentence("writes all as early as can be (words of up to 57 signs)");
+        compare("215111 104010 403011 005000 501111 01200 511111 000110 313 302111 02411", "4011", 57);
+        compare("105100 504001 000 403111 201110 022010 321101 424 002101 312001 514001 02510", "311", 54);
+        compare("202001 412011 315110 30411 003100 501101 120100 4101 225101 423101 020", "40", 47);
+        compare("523110 422100 225001 30411 315010 021100 113111 414 0120 310110 124110 202 30411 105001", "3", 45);
+        compare("013101 311111 114110 322111 200 415000 212110 520111 204010 2210 201011", "20", 45);
+        compare("211000 412000 314011 015110 010000 513010 023110", "1001", 30);
+        compare("324001 020111 021 000101 502111 123000 001001 0141 405101", "2111", 25);
     }
 
-    private static void compare(String what, String edges, String end, int longest) {
+    private static void compare(String edges, String end, int longest) {
+        String what = longest + " signs";
         WriterDesk desk = Check.told(6, edges, end);
         makes(what, desk, Naive.smallest(Naive.told(6, edges, end), 1000));
         int most = 0;
@@ -128,6 +133,8 @@ public final class BoundarySmallestTest {
                 desk.next(state, letter);
                 most = Math.max(most, desk.count(0));
             }
+            desk.ends(state);
+            most = Math.max(most, desk.count(0));
         }
         Check.equal(what + ": the longest word", most, longest);
     }

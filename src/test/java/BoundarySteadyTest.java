@@ -12,6 +12,7 @@ public final class BoundarySteadyTest {
         residualsWithFirstWords();
         residualsWithoutWhatIsAlike();
         residualsOfWaysThatMeet();
+        longResidualsOfWaysThatMeet();
         residualsOfOneWord();
         lengthByLength();
         longerThanTwelve();
@@ -60,6 +61,23 @@ public final class BoundarySteadyTest {
         steady("1 sign ahead", Check.told(3, "00111 0021 1011 2021 110 220", "0"), true);
         steady("1 sign more each time", Check.told(3, "00111 0021 10111 2021 110 220", "0"), false);
         steady("1 sign more each time, the other way", Check.told(3, "0011 00211 1011 20211 110 220", "0"), false);
+    }
+
+    /** What one way is ahead is written by the other one later, sign by sign. */
+    private static void longResidualsOfWaysThatMeet() {
+        Check.sentence("without all that both begin with alike (up to 45 signs, till nothing is left)");
+        String[] edges = {"305000 202 000 425 501000 514 011 323000 104 112000 003000 224000 521 210000",
+            "222 413011 524111 223111 122110 110 012 304101 120 021 215 325000 505 514",
+            "013011 411000 222 515 303110 324011 214 412 100 425 110011 501",
+            "312101 103110 000 513 502001 201000 320001 024 005101 415 404 505 411111"};
+        String[] ends = {"400", "310", "5", "2"};
+        for (int i = 0; i < edges.length; i++) {
+            Check.equal("naive", Naive.steadiness(Naive.told(6, edges[i], ends[i])), "steady");
+            steady("steady machine " + i, Check.told(6, edges[i], ends[i]), true);
+        }
+        WriterDesk desk = Check.told(6, edges[3], ends[3]);
+        Check.equal("its smallest machine", desk.smallest(0), 26);
+        Check.equal("its smallest machine", Check.made(desk), Naive.smallest(Naive.told(6, edges[3], ends[3]), 1000));
     }
 
     private static void residualsOfOneWord() {

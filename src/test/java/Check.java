@@ -41,7 +41,7 @@ final class Check {
     }
 
     private static void endSentence() {
-        if (sentences > 0 && checked == checkedBefore) {
+        if (!sentence.isEmpty() && checked == checkedBefore) {
             wrong++;
             System.out.println(sentence + "no answer was looked at");
         }
@@ -71,6 +71,7 @@ final class Check {
         WriterDesk desk = made.get();
         String before = all(desk);
         String result = result(desk);
+        equal(what + ": there is a result", result.isEmpty(), false);
         throwing(what, due, () -> call.accept(desk));
         equal(what + ": the result stays", result(desk), result);
         equal(what + ": all stays", all(desk), before);
@@ -83,25 +84,23 @@ final class Check {
         }
     }
 
-    /** What can be seen of an object without too many calls; the result is a first output then, if there is one. */
+    /** What can be seen of an object without too many calls; an output that is not empty is the result then. */
     private static String all(WriterDesk desk) {
         StringBuilder text = new StringBuilder();
         text.append(desk.count(1)).append(' ').append(desk.count(2));
         text.append(desk.count(2) == 0 ? "" : made(desk));
-        int told = WriterDesk.NONE;
+        int toldMachine = 0;
+        String toldWord = "";
         for (int m = 0; m < 6; m++) {
-            text.append(' ').append(desk.useful(m)).append(outputs(desk, m, "")).append(outputs(desk, m, "0"));
-            told = desk.useful(m) > 0 ? m : told;
+            text.append(' ').append(desk.useful(m));
+            for (String word : new String[] {"", "0"}) {
+                text.append(':').append(read(desk, m, word, 0)).append('/').append(result(desk));
+                toldWord = desk.count(0) > 0 ? word : toldWord;
+                toldMachine = desk.count(0) > 0 ? m : toldMachine;
+            }
         }
-        if (told != WriterDesk.NONE) {
-            desk.read(told, 0, 0, 0);
-        }
+        read(desk, toldMachine, toldWord, 0);
         return text.toString();
-    }
-
-    private static String outputs(WriterDesk desk, int m, String word) {
-        int outputs = read(desk, m, word, 0);
-        return ":" + outputs + "/" + result(desk);
     }
 
     /** The result as digits, one for each letter or sign. */

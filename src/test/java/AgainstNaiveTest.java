@@ -252,6 +252,7 @@ public final class AgainstNaiveTest {
     public static void main(String[] args) {
         int rounds = args.length > 0 ? Integer.parseInt(args[0]) : 2000;
         seed = args.length > 1 ? Long.parseLong(args[1]) : seed;
+        // One object for all rounds, though only 512 calls are promised: rows used again must hold nothing from before.
         WriterDesk desk = new WriterDesk();
         for (int round = 0; round < rounds; round++) {
             Naive machine = someUseful();

@@ -183,13 +183,28 @@ final class Check {
         text.append(result(desk));
         int states = desk.count(2);
         for (int state = 0; state < states; state++) {
-            text.append('|');
-            for (int letter = 0; letter < 3; letter++) {
-                int to = desk.next(state, letter);
-                text.append(to == WriterDesk.NONE ? "-" : to + ":" + result(desk)).append(' ');
-            }
-            boolean closing = desk.ends(state);
-            text.append(closing ? "." + result(desk) : "-");
+            text.append(madeState(desk, state));
+        }
+        return text.toString();
+    }
+
+    private static String madeState(WriterDesk desk, int state) {
+        StringBuilder text = new StringBuilder("|");
+        for (int letter = 0; letter < 3; letter++) {
+            int to = desk.next(state, letter);
+            text.append(to == WriterDesk.NONE ? "-" : to + ":" + result(desk)).append(' ');
+        }
+        boolean closing = desk.ends(state);
+        return text.append(closing ? "." + result(desk) : "-").toString();
+    }
+
+    /** As made(), for machines with long words: an object for each state, as one is used for 512 calls only. */
+    static String madeInParts(Supplier<WriterDesk> made) {
+        WriterDesk desk = made.get();
+        desk.ends(WriterDesk.NONE);
+        StringBuilder text = new StringBuilder(result(desk));
+        for (int state = 0; state < desk.count(2); state++) {
+            text.append(madeState(made.get(), state));
         }
         return text.toString();
     }

@@ -4,6 +4,10 @@ import java.util.TreeMap;
 /** Many machines, made by a fixed rule, whose answers are compared with those of the naive ones. */
 public final class AgainstNaiveTest {
     private static final TreeMap<String, Integer> SEEN = new TreeMap<>();
+    /** So many ways of reading are looked at for a word that should not be there: there may be words without end. */
+    private static final int MOST_WAYS = 4000;
+    /** So many for a word that should be there. */
+    private static final int MANY_WAYS = 200000;
     private static long seed = 12345;
 
     private AgainstNaiveTest() {
@@ -98,23 +102,32 @@ public final class AgainstNaiveTest {
         return machine;
     }
 
+    /** A circle with a shorter one in it, both read by one letter: the first word that both can read is long. */
+    private static Naive someCircling() {
+        Naive machine = new Naive(3 + some(4));
+        for (int q = 0; q < machine.states; q++) {
+            machine.edges.add(new Naive.Edge(q, 0, (q + 1) % machine.states, someWord(1, 1)));
+        }
+        int from = some(machine.states);
+        int skipped = 1 + some(2);
+        machine.edges.add(new Naive.Edge(from, 0, (from + 1 + skipped) % machine.states, someWord(1, 1)));
+        machine.closing[some(machine.states)] = someWord(3, 1);
+        return machine;
+    }
+
     private static Naive someOfAKind() {
-        switch (some(4)) {
+        switch (some(5)) {
             case 0:
                 return someGuessing();
             case 1:
                 return someKnowing();
             case 2:
                 return someTurned();
+            case 3:
+                return someCircling();
             default:
                 return someMachine();
         }
-    }
-
-    /** So long are the words that are tried one by one: the fewer letters there are the longer. */
-    private static int longest(Naive machine) {
-        long letters = machine.edges.stream().map(Naive.Edge::letter).distinct().count();
-        return letters > 2 ? 6 : letters == 2 ? 9 : 40;
     }
 
     /** Mostly by letters for which the last state on some way has an edge. */
@@ -163,20 +176,20 @@ public final class AgainstNaiveTest {
     }
 
     private static boolean compareFunction(WriterDesk desk, Naive machine, String name) {
-        int longest = longest(machine);
-        String apart = Naive.firstApart(machine, machine, longest);
         boolean function = desk.isFunction(0);
         String word = Check.result(desk);
-        if (apart == null && !function) {
-            saw("isFunction: told apart later");
-            Check.equal(name + "isFunction " + word, word.length() > longest, true);
-            Check.equal(name + "outputs of " + word, Naive.read(machine, word).size() > 1, true);
-        } else {
-            saw("isFunction: " + function);
-            Check.equal(name + "isFunction", function, apart == null);
-            Check.equal(name + "isFunction's word", word, apart == null ? "" : apart);
-        }
+        compareApart("isFunction", name, function, word,
+                Naive.firstApart(machine, machine, function ? MOST_WAYS : MANY_WAYS));
         return function;
+    }
+
+    /** Whether it is so, and the first word that tells why not. */
+    private static void compareApart(String call, String name, boolean got, String word, String due) {
+        boolean none = due == null || due.equals(Naive.NOT_KNOWN);
+        saw(call + ": " + (none ? "true" : due.length() < 12 ? "false" : "false, a long word")
+                + (none && due != null ? ", as far as looked" : ""));
+        Check.equal(name + call, got, none);
+        Check.equal(name + call + "'s word", word, none ? "" : due);
     }
 
     private static void compareSmallest(WriterDesk desk, Naive machine, String name) {
@@ -233,18 +246,9 @@ public final class AgainstNaiveTest {
             Check.throwing(name + "isSame", IllegalStateException.class, () -> desk.isSame(1, 0));
             return;
         }
-        int longest = Math.min(longest(one), longest(two));
-        String apart = Naive.firstApart(one, two, longest);
         boolean same = desk.isSame(0, 1);
         String word = Check.result(desk);
-        if (apart == null && !same) {
-            saw("isSame: told apart later");
-            Check.equal(name + "isSame " + word, word.length() > longest, true);
-        } else {
-            saw("isSame: " + same);
-            Check.equal(name + "isSame", same, apart == null);
-            Check.equal(name + "isSame's word", word, apart == null ? "" : apart);
-        }
+        compareApart("isSame", name, same, word, Naive.firstApart(one, two, same ? MOST_WAYS : MANY_WAYS));
         Check.equal(name + "isSame turned", desk.isSame(1, 0), same);
         Check.result(name + "isSame turned", desk, word);
     }

@@ -1,3 +1,4 @@
+import java.util.ArrayDeque;
 import java.util.ArrayList;
 import java.util.Arrays;
 import java.util.Comparator;
@@ -136,33 +137,58 @@ final class Naive {
         return new ArrayList<>(trim.outputs(ways));
     }
 
-    /** The first word up to a length for which the outputs of both together, or the domains, differ; or null. */
-    static String firstApart(Naive one, Naive two, int longest) {
+    /** What firstApart() answers when it would have to look at too many ways. */
+    static final String NOT_KNOWN = "not known";
+
+    /** A word, and all ways of two machines to read it. */
+    record Reached(String word, Set<String> oneWays, Set<String> twoWays) {
+        /** Without what all of them have written alike: what comes behind the word does not ask for it. */
+        Reached cut() {
+            Set<String> all = new HashSet<>(oneWays);
+            all.addAll(twoWays);
+            String lead = null;
+            for (String way : all) {
+                String written = way.substring(1);
+                lead = lead == null ? written : lead.substring(0, alike(lead, written));
+            }
+            return lead == null ? this : new Reached(word, without(oneWays, lead.length()),
+                    without(twoWays, lead.length()));
+        }
+
+        private static Set<String> without(Set<String> ways, int signs) {
+            Set<String> cut = new HashSet<>();
+            for (String way : ways) {
+                cut.add(way.charAt(0) + way.substring(1 + signs));
+            }
+            return cut;
+        }
+    }
+
+    /** The first word with two outputs, or with outputs that are not the same for both machines; null when none has. */
+    static String firstApart(Naive one, Naive two, int mostWays) {
         Naive a = one.trimmed();
         Naive b = two.trimmed();
-        List<String> words = List.of("");
-        Map<String, Set<String>> aWays = new HashMap<>(Map.of("", a.begin()));
-        Map<String, Set<String>> bWays = new HashMap<>(Map.of("", b.begin()));
-        for (int length = 0; length <= longest; length++) {
-            List<String> longer = new ArrayList<>();
-            for (String word : words) {
-                Set<String> aNow = aWays.remove(word);
-                Set<String> bNow = bWays.remove(word);
-                TreeSet<String> both = a.outputs(aNow);
-                if (!both.equals(b.outputs(bNow)) || both.size() > 1) {
-                    return word;
-                }
-                for (int letter = 0; letter < 3; letter++) {
-                    Set<String> aThen = a.after(aNow, letter);
-                    Set<String> bThen = b.after(bNow, letter);
-                    if (!aThen.isEmpty() || !bThen.isEmpty()) {
-                        longer.add(word + letter);
-                        aWays.put(word + letter, aThen);
-                        bWays.put(word + letter, bThen);
-                    }
+        ArrayDeque<Reached> words = new ArrayDeque<>();
+        Set<List<Set<String>>> seen = new HashSet<>();
+        words.add(new Reached("", a.begin(), b.begin()));
+        int ways = 0;
+        while (!words.isEmpty()) {
+            Reached now = words.poll();
+            TreeSet<String> outputs = a.outputs(now.oneWays);
+            if (!outputs.equals(b.outputs(now.twoWays)) || outputs.size() > 1) {
+                return now.word;
+            }
+            for (int letter = 0; letter < 3; letter++) {
+                Reached then = new Reached(now.word + letter, a.after(now.oneWays, letter),
+                        b.after(now.twoWays, letter)).cut();
+                if (seen.add(List.of(then.oneWays, then.twoWays))) {
+                    words.add(then);
+                    ways += then.oneWays.size() + then.twoWays.size();
                 }
             }
-            words = longer;
+            if (ways > mostWays) {
+                return NOT_KNOWN;
+            }
         }
         return null;
     }
